@@ -3,7 +3,10 @@ final class Bench {
     private static int wrong = 0;
     private static int asked = 0;
 
-    final GuardedRules x = new GuardedRules();
+    final Counted x = new Counted();
+
+    /** What the tokens bear whose value isn't looked at. */
+    int idle = 0;
     private final String name;
 
     Bench(String name) {
@@ -16,6 +19,45 @@ final class Bench {
             due("object", x.object(classes[i]), i);
         }
         return this;
+    }
+
+    /** Eight objects, as many as there can be; object o has the class o % 3. */
+    Bench withEight() {
+        return with(0, 1, 2, 0, 1, 2, 0, 1);
+    }
+
+    /** Rules 3, 4 and 5, which use up 1, 5 and 21 units when they are called at object 0, whose list 5 they need full. */
+    Bench fuelled() {
+        for (int i = 0; i < 4; i++) {
+            due("link", x.link(0, 5, 0), true);
+        }
+        rule(3, GuardedRules.NUM, "0");
+        rule(4, GuardedRules.NUM, "sum0 ( it .5 : 0 )");
+        rule(5, GuardedRules.NUM, "sum0 ( it .5 : sum1 ( it .5 : 0 ) )");
+        return this;
+    }
+
+    /** A text of the value 0 that uses up so many units, 0 to 40, at object 0 of a fuelled bench. */
+    static String burn(int units) {
+        String[] calls = {"r5 ( it )", "r4 ( it )", "r3 ( it )"};
+        int[] costs = {21, 5, 1};
+        StringBuilder text = new StringBuilder();
+        int left = units;
+        for (int i = 0; i < calls.length; i++) {
+            for (; left >= costs[i]; left -= costs[i]) {
+                text.append(text.length() == 0 ? "" : " + ").append(calls[i]);
+            }
+        }
+        return text.length() == 0 ? "0" : text.toString();
+    }
+
+    /** A text so many times, with blanks between. */
+    static String times(int count, String text) {
+        return (text + " ").repeat(count).trim();
+    }
+
+    static int countOf(String text) {
+        return text.isBlank() ? 0 : text.trim().split("\\s+").length;
     }
 
     void due(String what, long got, long want) {
@@ -41,21 +83,27 @@ final class Bench {
     }
 
     private boolean append(String word) {
+        int[] token = tokenOf(word, idle);
+        return x.token(token[0], token[1]);
+    }
+
+    /** The kind and the value of a word; idle is the value where it isn't looked at. */
+    static int[] tokenOf(String word, int idle) {
         String[] plain = {"it", "(", ")", "?", ":", "||", "&&", "!", "==", "<", "+", "-", "*", "/", "null"};
         int[] kinds = {3, 6, 7, 8, 9, 10, 11, 12, 13, 14, 15, 16, 17, 18, 19};
         for (int i = 0; i < plain.length; i++) {
             if (word.equals(plain[i])) {
-                return x.token(kinds[i], 0);
+                return new int[] {kinds[i], idle};
             }
         }
         String[] heads = {"?.", ".", "v", "r", "any", "all", "sum"};
         int[] headKinds = {2, 1, 4, 5, 20, 21, 22};
         for (int i = 0; i < heads.length; i++) {
             if (word.startsWith(heads[i])) {
-                return x.token(headKinds[i], Integer.parseInt(word.substring(heads[i].length())));
+                return new int[] {headKinds[i], Integer.parseInt(word.substring(heads[i].length()))};
             }
         }
-        return x.token(0, Integer.parseInt(word));
+        return new int[] {0, Integer.parseInt(word)};
     }
 
     /** Compiles a text that must pass. */
@@ -67,7 +115,7 @@ final class Bench {
     void finding(int r, int kind, String text, int want, int place) {
         x.wipe();
         type(text);
-        int count = text.isBlank() ? 0 : text.trim().split("\\s+").length;
+        int count = countOf(text);
         due("compile " + r + " kind " + kind + " of " + text, x.compile(r, kind), want);
         due("place of " + text, x.place(), place);
         due("tokens left of " + text, x.wipe(), want == GuardedRules.OK ? 0 : count);

@@ -1,8 +1,10 @@
 import java.util.ArrayDeque;
 import java.util.ArrayList;
 import java.util.Arrays;
+import java.util.HashMap;
 import java.util.HashSet;
 import java.util.List;
+import java.util.Map;
 import java.util.Set;
 import java.util.TreeSet;
 
@@ -220,27 +222,33 @@ final class Model {
         return ways.contains(List.of()) ? -1 : tokens.size();
     }
 
+    private static final Map<String, List<List<String>>> CHOICES = new HashMap<>();
+
+    static {
+        for (String line : GRAMMAR) {
+            List<List<String>> choices = new ArrayList<>();
+            for (String choice : line.substring(line.indexOf('=') + 1).split("\\|", -1)) {
+                choices.add(choice.isBlank() ? List.of() : Arrays.asList(choice.trim().split(" ")));
+            }
+            CHOICES.put(line.substring(0, line.indexOf(' ')), choices);
+        }
+    }
+
     /** The ways with a token, or nothing, in front. */
     private static Set<List<String>> opened(Set<List<String>> ways) {
         Set<List<String>> done = new HashSet<>();
         ArrayDeque<List<String>> open = new ArrayDeque<>(ways);
         while (!open.isEmpty()) {
             List<String> way = open.pop();
-            if (way.isEmpty() || Character.isDigit(way.get(0).charAt(0))) {
+            List<List<String>> choices = way.isEmpty() ? null : CHOICES.get(way.get(0));
+            if (choices == null) {
                 done.add(way);
                 continue;
             }
-            for (String line : GRAMMAR) {
-                if (line.startsWith(way.get(0) + " = ")) {
-                    for (String choice : line.substring(line.indexOf('=') + 1).split("\\|", -1)) {
-                        List<String> longer = new ArrayList<>();
-                        if (!choice.isBlank()) {
-                            longer.addAll(Arrays.asList(choice.trim().split(" ")));
-                        }
-                        longer.addAll(way.subList(1, way.size()));
-                        open.push(longer);
-                    }
-                }
+            for (List<String> choice : choices) {
+                List<String> longer = new ArrayList<>(choice);
+                longer.addAll(way.subList(1, way.size()));
+                open.push(longer);
             }
         }
         return done;

@@ -3,7 +3,7 @@ import java.util.List;
 
 /** All promises: long mixed runs, always the same ones, on the class and on the model beside it. */
 public final class ModelTest {
-    private static final int RUNS = 3000, CALLS = 500;
+    private static final int RUNS = 3000;
 
     private static final long[] seen = new long[7];
     private static final long[] outcomes = new long[7];
@@ -64,11 +64,12 @@ public final class ModelTest {
                 changeObjects();
             }
         }
-        while (calls < CALLS - 60 && wrong == 0) {
+        // The last call that is looked at is the last one that the document speaks of.
+        while (calls < Counted.CALLS && wrong == 0) {
             int what = below(10);
             if (what < 4) {
                 compile();
-            } else if (what < 8) {
+            } else if (what < 8 && calls + 4 <= Counted.CALLS) {
                 eval();
             } else {
                 changeObjects();
@@ -146,10 +147,14 @@ public final class ModelTest {
         if (r >= 0 && r < 6 && compiled[r] && below(3) != 0) {
             kind = kinds[r];
         }
+        List<int[]> text = tokens(r, kind);
+        if (calls + text.size() + 3 > Counted.CALLS) {
+            return;
+        }
         if (below(8) != 0) {
             same("wipe()", x.wipe(), m.wipe());
         }
-        for (int[] token : tokens(r, kind)) {
+        for (int[] token : text) {
             same("token(" + token[0] + ", " + token[1] + ")", x.token(token[0], token[1]) ? 1 : 0, m.token(token[0], token[1]) ? 1 : 0);
         }
         int finding = x.compile(r, kind);
