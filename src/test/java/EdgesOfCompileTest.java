@@ -453,6 +453,25 @@ public final class EdgesOfCompileTest {
         b.rule(0, NUM, "1");
         b.rule(4, NUM, "r1 ( it ) + 0 + 1");
         b.rule(0, BOOL, "1 == 1");
+        notFixedByCallsOfOthers();
+    }
+
+    private static void notFixedByCallsOfOthers() {
+        for (int r = 0; r < 6; r++) {
+            for (int callee = 0; callee < 6; callee++) {
+                for (int caller = 0; caller < 6; caller++) {
+                    if (r == callee || caller == r || caller == callee) {
+                        continue;
+                    }
+                    Bench b = new Bench("rule " + r + " beside a call of " + callee);
+                    b.rule(r, NUM, "1");
+                    b.rule(callee, NUM, "1");
+                    b.rule(caller, NUM, "r" + callee + " ( it )");
+                    b.finding(callee, BOOL, "1 == 1", FIXED, 0);
+                    b.rule(r, BOOL, "1 == 1");
+                }
+            }
+        }
     }
 
     /** "Otherwise the first of these findings," */
@@ -540,6 +559,14 @@ public final class EdgesOfCompileTest {
             b.rule(r, NUM, Bench.times(39, "-") + " " + (r + 1));
         }
         for (int r = 0; r < 6; r++) {
+            b.value(r, 0, -r - 1, 0);
+        }
+        b.finding(2, NUM, Bench.times(39, "!") + " 1", CLASH, 38);
+        for (int r = 0; r < 6; r++) {
+            b.value(r, 0, -r - 1, 0);
+        }
+        b.rule(0, NUM, "77");
+        for (int r = 1; r < 6; r++) {
             b.value(r, 0, -r - 1, 0);
         }
     }
