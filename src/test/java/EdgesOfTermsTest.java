@@ -19,6 +19,7 @@ public final class EdgesOfTermsTest {
         exprOnceOrNot();
         repetitionsAnyNumberOfTimes();
         unaryAndNavigation();
+        minusOfOneSideOrTwo();
         primaries();
         groupToTheLeft();
         bodies();
@@ -319,6 +320,42 @@ public final class EdgesOfTermsTest {
         find(NUM, "1 .0", GuardedRules.CLASH, 1);
         find(NUM, ".0", SYNTAX, 0);
         find(NUM, "- ?.0", SYNTAX, 1);
+    }
+
+    /** Behind an operand - has two sides, behind everything else one. */
+    private static void minusOfOneSideOrTwo() {
+        String[] numbers = {"5", "it .0", "it ?.0", "( 5 )", "r1 ( it )", "sum1 ( it .4 : 5 )"};
+        for (String number : numbers) {
+            Bench b = new Bench("- behind " + number).with(0);
+            b.x.set(0, 0, 5);
+            b.x.link(0, 4, 0);
+            b.rule(1, NUM, "5");
+            b.yields(NUM, number + " - 2", 3);
+            b.yields(NUM, number + " - 2 * 3", -1);
+            b.yields(NUM, number + " - - 2", 7);
+            b.yields(NUM, "- " + number + " - 2", -7);
+            b.yields(NUM, "2 - " + number, -3);
+        }
+        // One side alone would leave the operand before it without an operator.
+        String[] others = {"it", "null", "it .3", "it ?.3", "it .4", "( it )", "it ?.5"};
+        for (String other : others) {
+            find(NUM, other + " - 2", GuardedRules.CLASH, Bench.countOf(other));
+        }
+        find(NUM, "sum0 ( it .4 : v0 - 2 )", GuardedRules.CLASH, 6);
+        find(NUM, "sum0 ( it .4 : 2 - v0 )", GuardedRules.CLASH, 6);
+        String[] operators = {"+", "-", "*", "/"};
+        int[] results = {4, 8, -12, -3};
+        for (int i = 0; i < operators.length; i++) {
+            num("6 " + operators[i] + " - 2", results[i]);
+        }
+        bool("6 == - 6", 0);
+        bool("6 < - 6", 0);
+        bool("1 == 2 || - 1 == -1", 1);
+        bool("1 == 1 && - 1 == -1", 1);
+        bool("! ( - 1 == 1 )", 1);
+        num("1 == 1 ? - 2 : - 3", -2);
+        num("1 == 2 ? - 2 : - 3", -3);
+        num("sum0 ( it .4 : - 2 )", 0);
     }
 
     /** "prim = NUMBER | IT | VAR | NULL | ( expr ) | RULE ( expr ) | (ANY | ALL | SUM) ( expr : expr )" */
